@@ -2,6 +2,7 @@
 final class Promise05ReadTest {
     public static void main(String[] args) {
         worthsWithTwoDisksLost();
+        worthsThatAreZero();
         worthsRestOnWhatTheyShould();
         lostStripes();
         waitingAndEmpty();
@@ -18,6 +19,21 @@ final class Promise05ReadTest {
                 for (int lblock = 0; lblock < 20; lblock++) {
                     Due.is("read(0, " + lblock + ") without " + a + " and " + b,
                             pool.read(0, lblock), Sample.value(lblock));
+                }
+            }
+        }
+    }
+
+    private static void worthsThatAreZero() {
+        for (int zero = 0; zero < 4; zero++) {
+            for (int other = 0; other < 6; other++) {
+                RaidPool pool = Sample.filled();
+                pool.write(0, zero, 0);
+                pool.change(zero, true);
+                pool.change(other, true);
+                for (int k = 0; k < 4; k++) {
+                    Due.is("read(0, " + k + ") without " + zero + " and " + other,
+                            pool.read(0, k), k == zero ? 0 : Sample.value(k));
                 }
             }
         }

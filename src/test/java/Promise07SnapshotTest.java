@@ -2,7 +2,9 @@
 final class Promise07SnapshotTest {
     public static void main(String[] args) {
         copies();
+        theFirstVolumeAgain();
         waitingOnesAreWritten();
+        aFullQueueIsWritten();
         waitingOnesThatCannot();
         allVolumesAreThere();
         Due.end();
@@ -55,6 +57,31 @@ final class Promise07SnapshotTest {
         Due.is("the first of volume 1 was first still", pool.place(1, 0), 3);
         Due.is("NONE leaves those that wait", pool.snapshot(4), RaidPool.NONE);
         Due.is("one waits", pool.state(7), 1);
+    }
+
+    private static void theFirstVolumeAgain() {
+        RaidPool pool = Sample.filled();
+        pool.snapshot(0);
+        pool.drop(0);
+        pool.trim(1, 4);
+        Due.is("volume 0 is the least that is not there", pool.snapshot(1), 0);
+        Due.is("read(0, 3)", pool.read(0, 3), Sample.value(3));
+        Due.is("place(0, 4)", pool.place(0, 4), -1);
+        Due.is("volumes", pool.state(2), 2);
+    }
+
+    private static void aFullQueueIsWritten() {
+        RaidPool pool = new RaidPool();
+        pool.delay(6);
+        for (int i = 0; i < 6; i++) {
+            pool.write(0, 10 - i, 20 + i);
+        }
+        Due.is("snapshot(0)", pool.snapshot(0), 1);
+        Due.is("nothing waits", pool.state(7), 0);
+        for (int i = 0; i < 6; i++) {
+            Due.is("place(1, " + (10 - i) + ")", pool.place(1, 10 - i), i);
+            Due.is("read(1, " + (10 - i) + ")", pool.read(1, 10 - i), 20 + i);
+        }
     }
 
     private static void waitingOnesThatCannot() {
