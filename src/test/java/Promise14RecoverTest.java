@@ -34,6 +34,7 @@ final class Promise14RecoverTest {
         RaidPool pool = Sample.down(1);
         pool.recover();
         pool.write(0, 0, 1);
+        pool.spoil(0, 0, 9);
         int[] before = Sample.look(pool);
         Due.no("recover() again", pool.recover());
         Due.unchanged("not down", before, pool);

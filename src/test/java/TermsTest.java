@@ -272,11 +272,13 @@ final class TermsTest {
         pool.snapshot(1);
         Due.is("three", pool.state(1), 1);
         pool.write(0, 0, 2);
+        Due.is("one of three goes elsewhere", pool.place(0, 0), 1);
         Due.is("two", pool.state(1), 1);
-        pool.trim(1, 0);
+        pool.write(1, 0, 3);
+        Due.is("one of two goes elsewhere", pool.place(1, 0), 2);
         Due.is("one", pool.state(1), 0);
-        Due.is("the one that is left stays where it is", pool.write(2, 0, 3), RaidPool.OK);
-        Due.is("place(2, 0)", pool.place(2, 0), 0);
+        pool.write(2, 0, 4);
+        Due.is("the one that is left stays", pool.place(2, 0), 0);
     }
 
     private static void freeBlocks() {
